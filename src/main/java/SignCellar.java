@@ -25,6 +25,8 @@ public final class SignCellar {
     /** No KIND takes more TIME for a SIGN than ODDS do. */
     private static final int DEAREST_TIME = 6;
     private static final int WAYS_MOST = 20;
+    /** No long is greater than so many bits can tell apart. */
+    private static final int LONG_BITS = 63;
     private static final int SENT_WHOLE = 3;
     private static final int SENT_NAMED = 4;
     private static final int PRIME = 17;
@@ -456,7 +458,12 @@ public final class SignCellar {
         if (block == null || refusal != 0) {
             return refusal;
         }
-        return Long.SIZE - Long.numberOfLeadingZeros(waysOf(block.signs) - 1);
+        long ways = waysOf(block.signs);
+        int bits = 0;
+        while (bits < LONG_BITS && 1L << bits < ways) {
+            bits++;
+        }
+        return bits;
     }
 
     public int entropy(int b, int k) {
@@ -1317,9 +1324,12 @@ public final class SignCellar {
             return price;
         }
 
-        /** How often v + 1 can be halved till it is 1 is the place of its highest bit. */
         private static int placePrice(int v) {
-            return 1 + 2 * (Integer.SIZE - 1 - Integer.numberOfLeadingZeros(v + 1));
+            int price = 1;
+            for (int left = v + 1; left > 1; left /= 2) {
+                price += 2;
+            }
+            return price;
         }
 
         private void sort(Row signs, int n) {
@@ -1393,7 +1403,9 @@ public final class SignCellar {
         boolean choose(int t) {
             int n = Math.min(sizes.length() / KINDS, ROW_MOST);
             int within = Math.max(0, Math.min(t, ALL_TIME_MOST));
-            Arrays.fill(least[n], 0, within + 1, 0);
+            for (int left = 0; left <= within; left++) {
+                least[n][left] = 0;
+            }
             for (int i = n - 1; i >= 0; i--) {
                 for (int left = 0; left <= within; left++) {
                     least[i][left] = leastFrom(i, left);
