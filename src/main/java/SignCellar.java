@@ -309,7 +309,7 @@ public final class SignCellar {
                 choice.addBlock(block);
             }
         }
-        if (!choice.choose(Math.min(t, DEAREST_TIME * version.signs))) {
+        if (!choice.choose(t)) {
             return NOT;
         }
         if (i == NONE) {
@@ -1402,7 +1402,7 @@ public final class SignCellar {
 
         boolean choose(int t) {
             int n = Math.min(sizes.length() / KINDS, ROW_MOST);
-            int within = Math.max(0, Math.min(t, ALL_TIME_MOST));
+            int within = Math.max(0, Math.min(t, Math.min(timeOfSmallest(n), ALL_TIME_MOST)));
             for (int left = 0; left <= within; left++) {
                 least[n][left] = 0;
             }
@@ -1416,6 +1416,21 @@ public final class SignCellar {
             }
             tell(n, within);
             return true;
+        }
+
+        /** More TIME than the smallest KINDS take together makes nothing smaller. */
+        private int timeOfSmallest(int n) {
+            int time = 0;
+            for (int i = 0; i < n; i++) {
+                int smallest = i * KINDS;
+                for (int at = smallest; at < (i + 1) * KINDS; at++) {
+                    if (sizes.at(at) < sizes.at(smallest)) {
+                        smallest = at;
+                    }
+                }
+                time += times.at(smallest);
+            }
+            return time;
         }
 
         private int leastFrom(int i, int left) {

@@ -68,6 +68,16 @@ public final class PromiseTest {
         return six.toString();
     }
 
+    /** Its VERSION 18 has eight BLOCKS: the first and the last one of six are split. */
+    private static SignCellar eightBlocks() {
+        SignCellar x = with(sixBlocks());
+        for (int v = 0; v < 18; v++) {
+            due(x.put(v, v < 9 ? 0 : x.about(v, 0), 1), v + 1, "put");
+        }
+        due(x.about(18, 1), 8, "about(18, 1)");
+        return x;
+    }
+
     /** All that can be seen of an object, in a row. */
     private static List<Long> state(SignCellar x) {
         List<Long> all = new ArrayList<>();
@@ -256,12 +266,12 @@ public final class PromiseTest {
         dueRow(x, 12, 0);
     }
 
-    /** Six BLOCKS of 16, of which two are split, and one more is grown to 24: the ninth has no room. */
+    /** One more BLOCK of eight is grown to 24: the ninth has no room. */
     private static void putNinth() {
-        SignCellar x = with(sixBlocks());
-        int v = 0;
-        for (int i = 0; i < 26; i++) {
-            v = x.put(v, i < 9 ? 0 : x.about(v, 0) - (i < 18 ? 0 : 40), 1);
+        SignCellar x = eightBlocks();
+        int v = 18;
+        for (int i = 18; i < 26; i++) {
+            v = x.put(v, x.about(v, 0) - 40, 1);
             due(v, i + 1, "put");
         }
         due(x.about(v, 1), 8, "about(v, 1)");
@@ -554,9 +564,16 @@ public final class PromiseTest {
         for (int i = 0; i < 6; i++) {
             due(x.bit(0, i), want[i], "bit(0, " + i + ")");
         }
+        // here high is 32768 itself once, which is not below it
+        version(x, "1101112");
+        String edge = "000100010000000100001111111";
+        for (int i = 0; i < edge.length(); i++) {
+            due(x.bit(1, i), edge.charAt(i) - '0', "bit(1, " + i + ")");
+        }
+        due(x.bit(1, edge.length()), NONE, "bit(1, " + edge.length() + ")");
         due(x.bit(0, 6), NONE, "bit(0, 6)");
         due(x.bit(0, -1), NONE, "bit(0, -1)");
-        due(x.bit(1, 0), UNKNOWN, "bit(1, 0)");
+        due(x.bit(2, 0), UNKNOWN, "bit(2, 0)");
         x.tear(0);
         due(x.bit(0, 0), TORN, "bit(0, 0)");
         due(x.bit(0, 6), TORN, "bit(0, 6)");
@@ -608,6 +625,18 @@ public final class PromiseTest {
         x.tear(2);
         due(x.best(0, 0, 0), TORN, "best(0, 0, 0) ahead of NOT");
         due(x.best(0, 0, -3), OUTSIDE, "best(0, 0, -3) ahead of TORN");
+        SignCellar eight = eightBlocks();
+        int least = 0;
+        for (int i = 0; i < 8; i++) {
+            int smallest = eight.size(eight.block(18, i), 0);
+            for (int kind = 1; kind < 5; kind++) {
+                smallest = Math.min(smallest, eight.size(eight.block(18, i), kind));
+            }
+            least += smallest;
+        }
+        due(eight.best(18, 9999, NONE), least, "best(18, 9999, NONE)");
+        due(eight.best(18, 114, -2), 114, "best(18, 114, -2)");
+        due(eight.best(18, 113, -2), NOT, "best(18, 113, -2)");
         x = with("7");
         x.strike(0, 0);
         due(x.best(1, 0, NONE), 0, "best of no BLOCKS");
@@ -734,15 +763,15 @@ public final class PromiseTest {
 
     private static void restore() {
         promise = 26;
-        for (int p = 0; p < 6; p++) {
-            for (int q = 0; q < 6; q++) {
-                SignCellar x = with(sixBlocks());
-                List<Long> before = state(x);
-                x.tear(p);
-                x.tear(q);
-                due(x.restore(0), p == q ? 1 : 2, "restore(0)");
-                sameState(x, before, "tear and restore of " + p + " and " + q);
-                due(x.restore(0), NOT, "restore(0) with none TORN");
+        SignCellar eight = eightBlocks();
+        String all = text(eight, 18);
+        for (int p = 0; p < 8; p++) {
+            for (int q = 0; q < 8; q++) {
+                eight.tear(eight.block(18, p));
+                eight.tear(eight.block(18, q));
+                due(eight.restore(18), p == q ? 1 : 2, "restore(18)");
+                dueText(eight, 18, all);
+                due(eight.restore(18), NOT, "restore(18) with none TORN");
             }
         }
         SignCellar x = with("0".repeat(32) + "1" .repeat(16) + "2");
@@ -797,6 +826,11 @@ public final class PromiseTest {
         due(x.send(0, 1, 2), 6, "send(0, 1, 2)");
         due(x.send(1, 0, 0), 67 + 4 + 4 + 7, "send(1, 0, 0)");
         due(x.send(1, 1, 2), 0, "send(1, 1, 2)");
+        SignCellar eight = eightBlocks();
+        due(eight.send(18, 18, 2), 0, "send(18, 18, 2)");
+        due(eight.send(18, 17, 2), 3, "send(18, 17, 2)");
+        due(eight.send(0, 18, 2), 6, "send(0, 18, 2)");
+        due(eight.send(0, 18, 1), 4, "send(0, 18, 1)");
         due(x.send(0, 1, 3), OUTSIDE, "send(0, 1, 3)");
         due(x.send(0, 1, -1), OUTSIDE, "send(0, 1, -1)");
         due(x.send(0, 2, 3), UNKNOWN, "send(0, 2, 3)");

@@ -158,7 +158,24 @@ public final class RandomRunsTest {
         }
     }
 
+    /** A row of eight BLOCKS, the most there can be, by 96 SIGNS and nine puts each into the first and the last BLOCK. */
+    private void grow() {
+        while (model.draft.size() < 96) {
+            feed();
+        }
+        same(cellar.make(), model.make(), "make");
+        for (int i = 0; i < 18; i++) {
+            int v = model.versions.size() - 1;
+            int place = i < 9 ? 0 : model.text(v).size();
+            int sign = below(signs);
+            same(cellar.put(v, place, sign), model.edit(1, v, place, sign), "put", v, place, sign);
+        }
+    }
+
     private void run() {
+        if (below(4) == 0) {
+            grow();
+        }
         while (past.size() < CALLS) {
             int mood = below(100);
             if (mood < makes || model.versions.isEmpty()) {
