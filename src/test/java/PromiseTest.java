@@ -556,6 +556,13 @@ public final class PromiseTest {
         due(x.rule(0, 9, 0), OUTSIDE, "rule(0, 9, 0) ahead of TORN");
     }
 
+    private static void dueBits(SignCellar x, int b, String bits) {
+        for (int i = 0; i < bits.length(); i++) {
+            due(x.bit(b, i), bits.charAt(i) - '0', "bit(" + b + ", " + i + ")");
+        }
+        due(x.bit(b, bits.length()), NONE, "bit(" + b + ", " + bits.length() + ")");
+    }
+
     private static void bit() {
         promise = 17;
         // 5 of 16 like odds is 20480 to 24575: the bits 0101, and at the end 01
@@ -564,16 +571,14 @@ public final class PromiseTest {
         for (int i = 0; i < 6; i++) {
             due(x.bit(0, i), want[i], "bit(0, " + i + ")");
         }
-        // here high is 32768 itself once, which is not below it
+        // here high is 32768 itself once, and there 49152, neither of which is below it
         version(x, "1101112");
-        String edge = "000100010000000100001111111";
-        for (int i = 0; i < edge.length(); i++) {
-            due(x.bit(1, i), edge.charAt(i) - '0', "bit(1, " + i + ")");
-        }
-        due(x.bit(1, edge.length()), NONE, "bit(1, " + edge.length() + ")");
+        dueBits(x, 1, "000100010000000100001111111");
+        version(x, "a999999a9999999");
+        dueBits(x, 2, "101010011001100110011010001010011100100");
         due(x.bit(0, 6), NONE, "bit(0, 6)");
         due(x.bit(0, -1), NONE, "bit(0, -1)");
-        due(x.bit(2, 0), UNKNOWN, "bit(2, 0)");
+        due(x.bit(3, 0), UNKNOWN, "bit(3, 0)");
         x.tear(0);
         due(x.bit(0, 0), TORN, "bit(0, 0)");
         due(x.bit(0, 6), TORN, "bit(0, 6)");
