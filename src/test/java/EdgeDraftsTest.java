@@ -21,6 +21,15 @@ public final class EdgeDraftsTest extends EdgeKit {
         same("calls made", callsMade(), 512);
     }
 
+    private static void constants() {
+        says(0, "public static final int NONE = -1, UNKNOWN = -100001, OUTSIDE = -100002, NOT = -100003, FULL = -100004, TORN = -100005;");
+        int[] face = {SignCellar.NONE, SignCellar.UNKNOWN, SignCellar.OUTSIDE, SignCellar.NOT, SignCellar.FULL, SignCellar.TORN};
+        int[] want = {-1, -100001, -100002, -100003, -100004, -100005};
+        for (int i = 0; i < want.length; i++) {
+            same("constant " + i, face[i], want[i]);
+        }
+    }
+
     private static void numbersFromZero() {
         says(0, "What has a number has it from 0 on, as it comes.");
         fresh(SIXTEEN + "7", "33");
@@ -582,6 +591,7 @@ public final class EdgeDraftsTest extends EdgeKit {
 
     public static void main(String[] args) {
         fiveHundredAndTwelve();
+        constants();
         numbersFromZero();
         newObject();
         feeding();
