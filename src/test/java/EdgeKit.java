@@ -16,6 +16,8 @@ class EdgeKit {
     private static final int CALLS_MOST = 512;
     /** So many questions go to one object, behind the calls that brought it where it is. */
     private static final int SLICE = 200;
+    static final List<String> REFUSALS = List.of("UNKNOWN", "OUTSIDE", "NOT", "FULL", "TORN");
+    static final int PROMISES = 30;
     private static final String[] SECTIONS = sections();
 
     private static final Set<Integer> promises = new TreeSet<>();
@@ -34,6 +36,30 @@ class EdgeKit {
         } catch (IOException e) {
             return new String[0];
         }
+    }
+
+    /** The name of the call that the promise is about, its section's first word. */
+    static String nameOf(int promise) {
+        return promise < SECTIONS.length ? SECTIONS[promise].strip().split(" ")[0] : "";
+    }
+
+    /** The refusals that the promise names; where TORN is a word of what is answered it is none. */
+    static Set<String> refusalsOf(int promise) {
+        Set<String> named = new TreeSet<>();
+        String told = promise < SECTIONS.length ? SECTIONS[promise] : "";
+        told = told.replaceAll("(are|is) TORN|TORN (ones|or not)", " ");
+        for (String refusal : REFUSALS) {
+            if (told.matches(".*\\b" + refusal + "\\b.*")) {
+                named.add(refusal);
+            }
+        }
+        return named;
+    }
+
+    /** The name of a refusal, "" for any other answer. */
+    static String refusalNamed(long answer) {
+        long i = UNKNOWN - answer;
+        return i >= 0 && i < REFUSALS.size() ? REFUSALS.get((int) i) : "";
     }
 
     static void fault(String what) {

@@ -1,5 +1,8 @@
 import java.util.ArrayList;
+import java.util.HashMap;
 import java.util.List;
+import java.util.Map;
+import java.util.Set;
 
 /** Each call with all numbers at and over each edge of its arguments, in five states, against the plain model. */
 public final class SweepTest extends EdgeKit {
@@ -107,6 +110,7 @@ public final class SweepTest extends EdgeKit {
     private static SignCellar cellar;
     private static PlainModel model;
     private static int used = 0;
+    private static final Map<String, Set<String>> NAMED = refusals();
 
     private static void enter(List<String> state) {
         cellar = new SignCellar();
@@ -123,12 +127,30 @@ public final class SweepTest extends EdgeKit {
         return List.of("feed", "make", "change", "put", "strike", "sign", "clear", "tear", "restore").contains(name);
     }
 
+    private static Map<String, Set<String>> refusals() {
+        Map<String, Set<String>> all = new HashMap<>();
+        for (int promise = 1; promise <= PROMISES; promise++) {
+            all.put(nameOf(promise), refusalsOf(promise));
+        }
+        return all;
+    }
+
+    /** A call answers no refusal that its promise does not name. */
+    private static void named(String name, long answer) {
+        String refusal = refusalNamed(answer);
+        if (!refusal.isEmpty() && !NAMED.getOrDefault(name, Set.of()).contains(refusal)) {
+            fault(name + " answered " + refusal + ", which its promise does not name");
+        }
+    }
+
     private static void compare(List<String> state, String name, long... a) {
         if (changes(name) || used >= 512) {
             enter(state);
         }
         used++;
-        same(PlainModel.shown(name, a), ask(cellar, name, a), askModel(model, name, a));
+        long answer = ask(cellar, name, a);
+        same(PlainModel.shown(name, a), answer, askModel(model, name, a));
+        named(name, answer);
         for (int what = 0; what < 7 && changes(name); what++) {
             same("then count " + what, cellar.count(what), model.count(what));
         }
